@@ -270,6 +270,13 @@ final class AnswersTest {
         check.holds("isConfirmed", same.isConfirmed(0));
         check.due("result", same.result(0, 0), 6);
 
+        CountHall latest = Check.hall(BOX + "table 0;table 99;table 3;");
+        latest.bring(0);
+        Check.count(latest, 0, 0);
+        Check.count(latest, 0, 1);
+        Check.count(latest, 0, 2);
+        check.due("not the latest count, which nothing confirms", latest.result(0, 0), 6);
+
         // The first pile alone is the same: slip 5 finds 6 4 0.
         CountHall partly = Check.hall(BOX + "table 0;table 5;");
         partly.bring(0);
@@ -327,9 +334,9 @@ final class AnswersTest {
 
     private static void promises29And30Leader() {
         String three = "party a;party b;party c;region r;ward w r;ward x r;";
-        int[][] votes = {{5, 9, 7}, {9, 9, 1}, {1, 4, 4}, {0, 0, 3}, {0, 0, 0}, {7, 3, 6}, {3, 6, 8}};
-        int[] leader = {1, 0, 1, 2, NOT_FOUND, 0, 2};
-        int[] margin = {2, 0, 0, 3, 0, 1, 2};
+        int[][] votes = {{5, 9, 7}, {9, 9, 1}, {1, 4, 4}, {0, 0, 3}, {0, 0, 0}, {7, 3, 6}, {3, 6, 8}, {0, 1, 0}};
+        int[] leader = {1, 0, 1, 2, NOT_FOUND, 0, 2, 1};
+        int[] margin = {2, 0, 0, 3, 0, 1, 2, 1};
         for (int i = 0; i < votes.length; i++) {
             CountHall hall = counted(three + "box k w 1 1 " + votes[i][0] + " " + votes[i][1] + " " + votes[i][2] + " 200;");
             check.due("leader", hall.leader(0), leader[i]);
@@ -463,6 +470,11 @@ final class AnswersTest {
         Check.count(hall, 0, 1);
         check.due("countsLeft when confirmed", hall.countsLeft(0), 0);
 
+        CountHall back = Check.hall(BOX + "table 0;table 99;table 3;");
+        back.bring(0);
+        Check.count(back, 0, 1);
+        check.due("countsLeft by the first table", back.countsLeft(0), 1);
+
         CountHall wrong = Check.hall(BOX + "table 0;table 99;table 3;");
         wrong.bring(0);
         wrong.open(0, 2);
@@ -551,6 +563,11 @@ final class AnswersTest {
         check.due("regionSeats of no party", hall.regionSeats(0, 2), BAD_VALUE);
         check.due("regionSeats of no party", hall.regionSeats(0, -1), BAD_VALUE);
         check.due("regionSeats of a ward without votes", hall.regionSeats(3, 0), 0);
+
+        CountHall first = counted("party a;party b;region p;ward w p;ward x p;box k w 9 1 9 0 0;box l x 8 1 8 0 0;");
+        first.declare();
+        check.fails("isRegionDeclared without its first ward", first.isRegionDeclared(0));
+        check.fails("isDecided without its first ward", first.isDecided(0));
     }
 
     private static void promise42IsDecided() {
@@ -610,5 +627,9 @@ final class AnswersTest {
         check.due("worstTable of a tie", hall.worstTable(), 1);
         Check.count(hall, 1, 2);
         check.due("worstTable", hall.worstTable(), 2);
+        CountHall first = Check.hall(BOX + "table 3;table 0;");
+        first.bring(0);
+        Check.count(first, 0, 0);
+        check.due("worstTable, the first one", first.worstTable(), 0);
     }
 }

@@ -21,6 +21,7 @@ final class ChangesTest {
         promise53SetSetting();
         promise54Undo();
         promise54UndoesEach();
+        promise54UndoesAll();
         promises55And56Output();
         check.end();
     }
@@ -358,6 +359,52 @@ final class ChangesTest {
         valid.undo();
         check.fails("isConfirmed after undo", valid.isConfirmed(0));
         check.due("countedAt after undo", valid.countedAt(0, 1), NOT_FOUND);
+    }
+
+    /** Whatever the changes were, going back answers the same as going forth did. */
+    private static void promise54UndoesAll() {
+        CountHall hall = Check.hall(WARD + "ward x r;table 0;table 99;table 3;set tolerance 1;"
+                + "box k w 10 7 5 5 0;box l w 10 8 6 3 1;box m x 9 9 8 1 0;");
+        String[] before = new String[16];
+        int[] calls = {0, 1, 2, 3, 4, 5, 3, 6, 7, 3, 8, 3, 9, 3, 8};
+        for (int i = 0; i < calls.length; i++) {
+            before[i] = Check.everything(hall);
+            int size = hall.undoCount();
+            check.holds("call " + i, change(hall, calls[i]) >= 0);
+            check.due("undoCount", hall.undoCount(), Math.min(size + 1, 10));
+        }
+        for (int i = calls.length - 1; i >= calls.length - 10; i--) {
+            hall.undo();
+            check.holds("as before call " + i, before[i].equals(Check.everything(hall)));
+        }
+        check.due("undo", hall.undo(), NOT_FOUND);
+        for (int i = calls.length - 10; i < calls.length; i++) {
+            check.holds("forth again, call " + i, before[i].equals(Check.everything(hall)));
+            change(hall, calls[i]);
+        }
+    }
+
+    private static int change(CountHall hall, int which) {
+        switch (which) {
+            case 0:
+            case 1:
+            case 2:
+                return hall.bring(which);
+            case 4:
+                return hall.tamper(0, 9);
+            case 5:
+                return hall.accept(0);
+            case 6:
+                return hall.open(0, 2);
+            case 7:
+                return hall.countBox(2);
+            case 8:
+                return hall.declare();
+            case 9:
+                return hall.setSetting(CountHall.TRIGGER, 30);
+            default:
+                return hall.work();
+        }
     }
 
     private static void written(CountHall hall, int ward, String due) {

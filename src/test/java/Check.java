@@ -90,4 +90,61 @@ final class Check {
             throw new IllegalStateException("box " + box + " cannot be counted at table " + table);
         }
     }
+
+    /** All that a hall answers about itself, but for its buffers and the error position. */
+    static String everything(CountHall hall) {
+        StringBuilder all = new StringBuilder();
+        int piles = hall.count(0) + 1;
+        put(all, "hall", hall.count(0), hall.count(1), hall.count(2), hall.count(3), hall.count(4), hall.getSetting(0),
+                hall.getSetting(1), hall.toCount(), hall.nextWard(), hall.declaredCount(), hall.misplaced(), hall.worstTable());
+        for (int k = 0; k < 7; k++) {
+            put(all, "declared", hall.declared(k));
+        }
+        for (int region = 0; region < hall.count(1); region++) {
+            put(all, "region", hall.regionAround(region), hall.wardsIn(region), hall.depthOf(region),
+                    bit(hall.isRegionDeclared(region)), bit(hall.isDecided(region)));
+            for (int party = 0; party < piles; party++) {
+                put(all, "party", hall.regionVotes(region, party), hall.regionSeats(region, party));
+            }
+        }
+        for (int ward = 0; ward < hall.count(2); ward++) {
+            put(all, "ward", hall.regionOf(ward), hall.leader(ward), hall.margin(ward), bit(hall.isClose(ward)), hall.whyNot(ward));
+            for (int pile = 0; pile <= piles; pile++) {
+                put(all, "votes", hall.wardVotes(ward, pile));
+            }
+        }
+        for (int box = 0; box < hall.count(3); box++) {
+            putBox(all, hall, box, piles);
+        }
+        for (int table = 0; table < hall.count(4); table++) {
+            put(all, "table", hall.boxAt(table), hall.slipOf(table));
+        }
+        return all.toString();
+    }
+
+    private static void putBox(StringBuilder all, CountHall hall, int box, int piles) {
+        put(all, "box", hall.boxProperty(box, 0), hall.boxProperty(box, 1), hall.boxProperty(box, 2), hall.boxProperty(box, 3),
+                hall.placeOf(box), bit(hall.isSealGood(box)), hall.ledgerSize(box), bit(hall.isConfirmed(box)),
+                hall.surplus(box), bit(hall.isOff(box)), hall.countsLeft(box), hall.rightTable(box));
+        for (int entry = 0; entry < 13; entry++) {
+            put(all, "entry", hall.ledger(box, entry));
+        }
+        for (int pile = 0; pile <= piles; pile++) {
+            put(all, "pile", hall.papers(box, pile), hall.result(box, pile));
+            for (int count = 0; count < 5; count++) {
+                put(all, "count", hall.countedAt(box, count), hall.counted(box, count, pile));
+            }
+            for (int table = 0; table < hall.count(4); table++) {
+                put(all, "would", hall.wouldCount(table, box, pile));
+            }
+        }
+    }
+
+    private static void put(StringBuilder all, String what, int... answers) {
+        all.append(what).append(java.util.Arrays.toString(answers)).append('\n');
+    }
+
+    static int bit(boolean answer) {
+        return answer ? 1 : 0;
+    }
 }

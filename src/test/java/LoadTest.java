@@ -10,6 +10,7 @@ final class LoadTest {
         promise3Statements();
         promise3Lengths();
         promise3Replaces();
+        promise3ReplacesAll();
         promise3KeepsOnError();
         promise3Tokens();
         promise3Syntax();
@@ -139,6 +140,58 @@ final class LoadTest {
         check.due("the first seal since the load", hall.ledger(0, 1), 5000);
     }
 
+    /** Whatever an earlier hall held, a later one answers as if it were the first one. */
+    private static void promise3ReplacesAll() {
+        StringBuilder large = new StringBuilder("party a;party b;party c;party d;party e;region r;region s;region t;"
+                + "ward u r;ward v s;ward w t;ward x r;table 0;table 99;table 0;table 2;set trigger 50;set tolerance 9;");
+        for (char name = 'a'; name < 'm'; name++) {
+            large.append("box ").append(name).append(' ').append("uvwx".charAt(name % 4)).append(" 66 9 11 11 11 11 11 11;");
+        }
+        CountHall later = Check.hall(large.toString());
+        for (int box = 0; box < 12; box++) {
+            later.bring(box);
+            Check.count(later, box, 0);
+            Check.count(later, box, 1);
+        }
+        later.declare();
+        for (int table = 0; table < 4; table++) {
+            for (int box = 0; box < 12; box++) {
+                later.open(box, table);
+            }
+            later.countBox(table);
+        }
+        String small = "party a;party b;region r;ward w r;box k w 10 1 5 4 1;box l w 4 2 4 0 0;table 3;table 0;";
+        check.due("load", Check.load(later, small), 8);
+        CountHall first = Check.hall(small);
+        check.holds("as a new hall", Check.everything(later).equals(Check.everything(first)));
+        for (int step = 0; step < 12; step++) {
+            check.due("step " + step, change(later, step), change(first, step));
+            check.holds("as a new hall, step " + step, Check.everything(later).equals(Check.everything(first)));
+        }
+        check.due("set", Check.load(later, "set trigger 1;"), 1);
+        check.due("set again in another text", Check.load(later, "set trigger 2;"), 1);
+    }
+
+    private static int change(CountHall hall, int step) {
+        switch (step) {
+            case 0:
+            case 1:
+                return hall.bring(step);
+            case 2:
+                return hall.open(0, 0);
+            case 3:
+                return hall.countBox(0);
+            case 4:
+                return hall.seal(0);
+            case 5:
+                return hall.declare();
+            case 11:
+                return hall.setSetting(CountHall.TRIGGER, 0);
+            default:
+                return hall.work();
+        }
+    }
+
     private static void promise3KeepsOnError() {
         CountHall hall = Check.hall(FULL_HALL);
         hall.bring(0);
@@ -180,6 +233,9 @@ final class LoadTest {
         error("party \u00ff;", CountHall.SYNTAX_ERROR, 6);
         error("party a1;", CountHall.SYNTAX_ERROR, 7);
         error("partya;", CountHall.SYNTAX_ERROR, 0);
+        error("warty a;", CountHall.SYNTAX_ERROR, 0);
+        error("partz a;", CountHall.SYNTAX_ERROR, 0);
+        fine("party on;party fox;party get;party cable;party hard;", 5);
     }
 
     private static void promise3Syntax() {
