@@ -240,6 +240,7 @@ final class ChangesTest {
         check.due("the lowest index that was not at the table", start.countedAt(1, 0), 0);
         check.due("close at the beginning", start.countedAt(0, 1), 1);
         check.due("not counted", start.boxProperty(2, 3), 0);
+        check.due("at no table", start.placeOf(2), CountHall.HALL);
     }
 
     private static void promise52WorkLimits() {

@@ -143,7 +143,7 @@ final class LoadTest {
     /** Whatever an earlier hall held, a later one answers as if it were the first one. */
     private static void promise3ReplacesAll() {
         StringBuilder large = new StringBuilder("party a;party b;party c;party d;party e;region r;region s;region t;"
-                + "ward u r;ward v s;ward w t;ward x r;table 0;table 99;table 0;table 2;set trigger 50;set tolerance 9;");
+                + "ward u r;ward v s;ward w t;ward x r;table 0;table 2;table 0;table 0;set trigger 50;set tolerance 9;");
         for (char name = 'a'; name < 'm'; name++) {
             large.append("box ").append(name).append(' ').append("uvwx".charAt(name % 4)).append(" 66 9 11 11 11 11 11 11;");
         }
@@ -168,6 +168,10 @@ final class LoadTest {
             check.due("step " + step, change(later, step), change(first, step));
             check.holds("as a new hall, step " + step, Check.everything(later).equals(Check.everything(first)));
         }
+        Check.load(later, "party a;region r;ward w r;box k w 3 1 2 1;table 0;");
+        later.bring(0);
+        Check.count(later, 0, 0);
+        check.due("countsLeft with one table after halls with more", later.countsLeft(0), CountHall.NOT_FOUND);
         check.due("set", Check.load(later, "set trigger 1;"), 1);
         check.due("set again in another text", Check.load(later, "set trigger 2;"), 1);
     }
