@@ -708,6 +708,9 @@ public final class CountHall {
             for (int box = 0; box < MOST_BOXES; box++) {
                 boxes[box] = new Box();
             }
+            settings[TRIGGER] = FIRST_TRIGGER;
+            settings[TOLERANCE] = FIRST_TOLERANCE;
+            nextSeal = FIRST_NEW_SEAL;
         }
 
         void begin(Plan plan) {
@@ -785,10 +788,6 @@ public final class CountHall {
     private static final class Hall {
         Plan plan = new Plan();
         final State now = new State();
-
-        Hall() {
-            now.begin(plan);
-        }
 
         void begin(Plan newPlan) {
             plan = newPlan;

@@ -1,5 +1,3 @@
-import java.util.function.IntUnaryOperator;
-
 /** Promises 9 to 44: what a hall answers about its things without changing any. */
 final class AnswersTest {
     private static final Check check = new Check();
@@ -36,14 +34,6 @@ final class AnswersTest {
         check.end();
     }
 
-    /** An index that is one too low, one too high, and far off on both sides. */
-    private static void outside(String call, int number, IntUnaryOperator asked) {
-        int[] indexes = {-1, number, Integer.MIN_VALUE, Integer.MAX_VALUE};
-        for (int index : indexes) {
-            check.outside(call + "(" + index + ")", () -> asked.applyAsInt(index));
-        }
-    }
-
     private static int bit(boolean answer) {
         return answer ? 1 : 0;
     }
@@ -51,38 +41,38 @@ final class AnswersTest {
     private static void indexesOutside() {
         CountHall hall = Check.hall("party a;region r;region s;region t;ward w r;ward x r;"
                 + "box k w 10 7 6 3;box l w 10 7 6 3;box m x 10 7 6 3;box n x 10 7 6 3;table 0;table 1;table 2;");
-        outside("regionAround", 3, hall::regionAround);
-        outside("regionOf", 2, hall::regionOf);
-        outside("wardsIn", 3, hall::wardsIn);
-        outside("depthOf", 3, hall::depthOf);
-        outside("boxProperty", 4, box -> hall.boxProperty(box, 9));
-        outside("placeOf", 4, hall::placeOf);
-        outside("papers", 4, box -> hall.papers(box, 9));
-        outside("isSealGood", 4, box -> bit(hall.isSealGood(box)));
-        outside("ledgerSize", 4, hall::ledgerSize);
-        outside("ledger", 4, box -> hall.ledger(box, 9));
-        outside("boxAt", 3, hall::boxAt);
-        outside("slipOf", 3, hall::slipOf);
-        outside("counted", 4, box -> hall.counted(box, 9, 9));
-        outside("countedAt", 4, box -> hall.countedAt(box, 9));
-        outside("wouldCount table", 3, table -> hall.wouldCount(table, 0, 9));
-        outside("wouldCount box", 4, box -> hall.wouldCount(0, box, 9));
-        outside("isConfirmed", 4, box -> bit(hall.isConfirmed(box)));
-        outside("result", 4, box -> hall.result(box, 9));
-        outside("surplus", 4, hall::surplus);
-        outside("isOff", 4, box -> bit(hall.isOff(box)));
-        outside("wardVotes", 2, ward -> hall.wardVotes(ward, 9));
-        outside("leader", 2, hall::leader);
-        outside("margin", 2, hall::margin);
-        outside("isClose", 2, ward -> bit(hall.isClose(ward)));
-        outside("whyNot", 2, hall::whyNot);
-        outside("countsLeft", 4, hall::countsLeft);
-        outside("rightTable", 4, hall::rightTable);
-        outside("isRegionDeclared", 3, region -> bit(hall.isRegionDeclared(region)));
-        outside("regionVotes", 3, region -> hall.regionVotes(region, 9));
-        outside("regionSeats", 3, region -> hall.regionSeats(region, 9));
-        outside("isDecided", 3, region -> bit(hall.isDecided(region)));
-        outside("write", 2, hall::write);
+        check.outside("regionAround", 3, hall::regionAround);
+        check.outside("regionOf", 2, hall::regionOf);
+        check.outside("wardsIn", 3, hall::wardsIn);
+        check.outside("depthOf", 3, hall::depthOf);
+        check.outside("boxProperty", 4, box -> hall.boxProperty(box, 9));
+        check.outside("placeOf", 4, hall::placeOf);
+        check.outside("papers", 4, box -> hall.papers(box, 9));
+        check.outside("isSealGood", 4, box -> bit(hall.isSealGood(box)));
+        check.outside("ledgerSize", 4, hall::ledgerSize);
+        check.outside("ledger", 4, box -> hall.ledger(box, 9));
+        check.outside("boxAt", 3, hall::boxAt);
+        check.outside("slipOf", 3, hall::slipOf);
+        check.outside("counted", 4, box -> hall.counted(box, 9, 9));
+        check.outside("countedAt", 4, box -> hall.countedAt(box, 9));
+        check.outside("wouldCount table", 3, table -> hall.wouldCount(table, 0, 9));
+        check.outside("wouldCount box", 4, box -> hall.wouldCount(0, box, 9));
+        check.outside("isConfirmed", 4, box -> bit(hall.isConfirmed(box)));
+        check.outside("result", 4, box -> hall.result(box, 9));
+        check.outside("surplus", 4, hall::surplus);
+        check.outside("isOff", 4, box -> bit(hall.isOff(box)));
+        check.outside("wardVotes", 2, ward -> hall.wardVotes(ward, 9));
+        check.outside("leader", 2, hall::leader);
+        check.outside("margin", 2, hall::margin);
+        check.outside("isClose", 2, ward -> bit(hall.isClose(ward)));
+        check.outside("whyNot", 2, hall::whyNot);
+        check.outside("countsLeft", 4, hall::countsLeft);
+        check.outside("rightTable", 4, hall::rightTable);
+        check.outside("isRegionDeclared", 3, region -> bit(hall.isRegionDeclared(region)));
+        check.outside("regionVotes", 3, region -> hall.regionVotes(region, 9));
+        check.outside("regionSeats", 3, region -> hall.regionSeats(region, 9));
+        check.outside("isDecided", 3, region -> bit(hall.isDecided(region)));
+        check.outside("write", 2, hall::write);
     }
 
     private static void promises9To12Regions() {

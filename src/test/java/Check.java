@@ -1,4 +1,7 @@
 import java.util.function.IntSupplier;
+import java.util.function.IntUnaryOperator;
+import java.util.function.Supplier;
+import java.util.function.ToIntFunction;
 
 /** Counts answers that are not the due ones, and helps tests to make halls. */
 final class Check {
@@ -33,6 +36,41 @@ final class Check {
                 System.out.println(call + " threw " + thrown + ": that is the machine's");
             }
         }
+    }
+
+    /** An index that is one too low, one too high, and far off on both sides. */
+    void outside(String call, int number, IntUnaryOperator asked) {
+        for (int index : new int[] {-1, number, Integer.MIN_VALUE, Integer.MAX_VALUE}) {
+            outside(call + "(" + index + ")", () -> asked.applyAsInt(index));
+        }
+    }
+
+    /** Two halls that answer the same, but for the input buffer. */
+    void same(String call, CountHall got, CountHall want) {
+        due("undoCount, " + call, got.undoCount(), want.undoCount());
+        due("errorPosition, " + call, got.errorPosition(), want.errorPosition());
+        holds("the same output, " + call, output(got).equals(output(want)));
+        holds("the same answers, " + call, everything(got).equals(everything(want)));
+    }
+
+    /** A call that answers with an error code, and leaves the hall as one that was made in the same way without the call. */
+    void refused(String call, Supplier<CountHall> made, ToIntFunction<CountHall> asked, int code) {
+        CountHall hall = made.get();
+        due(call, asked.applyAsInt(hall), code);
+        same("after " + call, hall, made.get());
+    }
+
+    boolean isWrong() {
+        return failures > 0;
+    }
+
+    boolean isUsed() {
+        return checks > 0;
+    }
+
+    void add(Check other) {
+        checks += other.checks;
+        failures += other.failures;
     }
 
     void end() {
