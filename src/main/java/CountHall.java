@@ -497,10 +497,6 @@ public final class CountHall {
         final int[] slips = new int[MOST_TABLES];
         final int[] settings = new int[SETTINGS];
 
-        Plan() {
-            clear();
-        }
-
         void clear() {
             for (int sort = 0; sort < SORTS; sort++) {
                 number[sort] = 0;
