@@ -134,30 +134,38 @@ final class ModelTest {
         int boxes = chance(30) ? pick(13) : 1 + pick(5);
         int tables = pick(5);
         List<String> rows = new ArrayList<>();
-        for (int i = 0; i < parties; i++) {
-            rows.add("party " + name(i));
-        }
         for (int i = 0; i < regions; i++) {
             rows.add("region " + name(i) + (i > 0 && chance(60) ? " in " + name(pick(i)) : ""));
         }
         for (int i = 0; i < wards; i++) {
             rows.add("ward " + name(i) + " " + name(pick(regions)));
         }
+        int aheadOfBoxes = rows.size();
         for (int i = 0; i < boxes; i++) {
             rows.add(box(i, wards, parties));
         }
+        boolean mixed = chance(50);
+        for (int i = parties - 1; i >= 0; i--) {
+            aheadOfBoxes = mixed ? pick(aheadOfBoxes + 1) : 0;
+            rows.add(aheadOfBoxes, "party " + name(i));
+        }
         int[] slips = {0, 0, 99, 1, 2, 3, 3, 7, 12, 40};
         for (int i = 0; i < tables; i++) {
-            rows.add("table " + slips[pick(slips.length)]);
+            rows.add(place(rows, mixed), "table " + slips[pick(slips.length)]);
         }
         if (chance(50)) {
-            rows.add("set trigger " + pick(51));
+            rows.add(place(rows, mixed), "set trigger " + pick(51));
         }
         if (chance(50)) {
-            rows.add("set tolerance " + pick(10));
+            rows.add(place(rows, mixed), "set tolerance " + pick(10));
         }
         String between = chance(80) ? ";" : " ;\n";
         return rows.isEmpty() ? "" : String.join(between, rows) + between;
+    }
+
+    /** Tables and settings may stand anywhere. */
+    private int place(List<String> rows, boolean mixed) {
+        return mixed ? pick(rows.size() + 1) : rows.size();
     }
 
     private String box(int index, int wards, int parties) {
